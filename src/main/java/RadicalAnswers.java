@@ -41,7 +41,7 @@ public final class RadicalAnswers {
         // The answers are (middle() + the root of under()) / below() and
         // (middle() - the root of under()) / below(), a linear one's with under() being 0.
         private int middle() {
-            return isLinear() ? -c : -b;
+            return a == 0 ? -c : -b;
         }
 
         private int under() {
@@ -49,7 +49,7 @@ public final class RadicalAnswers {
         }
 
         private int below() {
-            return isLinear() ? b : 2 * a;
+            return a == 0 ? b : 2 * a;
         }
 
         private boolean standsBefore(Factor that) {
@@ -128,6 +128,7 @@ public final class RadicalAnswers {
 
     public int factor(int k, int what)
             throws IllegalStateException, IndexOutOfBoundsException, IllegalArgumentException {
+        split();
         Factor one = numbered(k);
         switch (what) {
             case 0:
@@ -160,6 +161,7 @@ public final class RadicalAnswers {
 
     public int answer(int k, int which, int part)
             throws IllegalStateException, IndexOutOfBoundsException, IllegalArgumentException {
+        split();
         Factor one = numbered(k);
         if (which < 0 || which > 1 || part < 0 || part > 1) {
             throw new IllegalArgumentException("no such part of an answer");
@@ -189,6 +191,7 @@ public final class RadicalAnswers {
 
     public int floor(int k, boolean upper)
             throws IllegalStateException, IndexOutOfBoundsException, IllegalArgumentException {
+        split();
         Factor one = numbered(k);
         checkReal(one);
         int below = one.below();
@@ -205,6 +208,7 @@ public final class RadicalAnswers {
 
     public int compare(int k, boolean upper, int m, boolean other)
             throws IllegalStateException, IndexOutOfBoundsException, IllegalArgumentException {
+        split();
         Factor one = numbered(k);
         Factor two = numbered(m);
         checkReal(one);
@@ -240,7 +244,6 @@ public final class RadicalAnswers {
     }
 
     private Factor numbered(int k) {
-        split();
         if (k < 0 || k >= foundCount || k >= found.length) {
             throw new IndexOutOfBoundsException("no such factor");
         }
@@ -310,35 +313,29 @@ public final class RadicalAnswers {
         }
     }
 
-    private void takeOutQuadraticFactors() {
-        if (degreeOf(rest) == 4) {
-            searchQuadraticFactors(rest[4], rest[0]);
-        }
-        // Linear factors are out already, so a rest of degree 2 is no product of them.
-        if (degreeOf(rest) == 2) {
-            takeOut(rest[2], rest[1], rest[0]);
-        }
-    }
-
     // Of two quadratic factors one has an a whose square isn't above the highest number; once it
     // is out, the rest is the other one. Every answer is nearer to 0 than 1 + LIMIT / highest
     // (Cauchy's bound), and -b / a is the sum of two of them.
-    private void searchQuadraticFactors(int highest, int lowest) {
+    private void takeOutQuadraticFactors() {
+        int highest = degreeOf(rest) == 4 ? rest[4] : 0;
+        int lowest = rest[0];
         for (int a = 1; a <= LIMIT && a * a <= highest; a++) {
-            if (highest % a == 0) {
-                int reach = 2 * a + 2 * LIMIT * a / highest;
-                searchQuadraticFactorsWith(a, reach, lowest);
+            if (highest % a != 0) {
+                continue;
             }
-        }
-    }
-
-    private void searchQuadraticFactorsWith(int a, int reach, int lowest) {
-        for (int c = -LIMIT; c <= LIMIT; c++) {
-            if (c != 0 && lowest % c == 0) {
+            int reach = 2 * a + 2 * LIMIT * a / highest;
+            for (int c = -LIMIT; c <= LIMIT; c++) {
+                if (c == 0 || lowest % c != 0) {
+                    continue;
+                }
                 for (int b = -reach; b <= reach; b++) {
                     takeOut(a, b, c);
                 }
             }
+        }
+        // Linear factors are out already, so a rest of degree 2 is no product of them.
+        if (degreeOf(rest) == 2) {
+            takeOut(rest[2], rest[1], rest[0]);
         }
     }
 
@@ -417,7 +414,7 @@ public final class RadicalAnswers {
 
     /** The greatest whole number whose square divides this one; 0 of 0. */
     private static int greatestSquareDividing(int number) {
-        int size = Math.abs(number);
+        int size = number < 0 ? -number : number;
         int greatest = 0;
         for (int i = 1; i <= ROOT_BOUND && i * i <= size; i++) {
             if (size % (i * i) == 0) {
