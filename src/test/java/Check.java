@@ -39,6 +39,48 @@ final class Check {
         }
     }
 
+    /** The call throws this, and the object answers every other call as it did before. */
+    static void dueRefused(String call, String want, RadicalAnswers x, Call made) {
+        String before = stateOf(x);
+        dueThrow(call, want, made);
+        dueState("behind " + call, x, before);
+    }
+
+    static void dueState(String call, RadicalAnswers x, String want) {
+        checked++;
+        String got = stateOf(x);
+        if (!got.equals(want)) {
+            tell(call, got, want);
+        }
+    }
+
+    /** All that can be asked of the object, as a text. */
+    static String stateOf(RadicalAnswers x) {
+        StringBuilder text = new StringBuilder("at");
+        boolean isZero = true;
+        for (int power = 0; power <= 4; power++) {
+            text.append(' ').append(x.at(power));
+            isZero &= x.at(power) == 0;
+        }
+        if (isZero) {
+            return text.toString();
+        }
+        text.append("; content ").append(x.content()).append("; real ").append(x.real()).append("; left");
+        for (int power = 0; power <= 4; power++) {
+            text.append(' ').append(x.left(power));
+        }
+        for (int k = 0; k < x.factors(); k++) {
+            text.append("; factor");
+            for (int what = 0; what <= 5; what++) {
+                text.append(' ').append(x.factor(k, what));
+            }
+            for (int i = 0; i < 4; i++) {
+                text.append(' ').append(x.answer(k, i / 2, i % 2));
+            }
+        }
+        return text.toString();
+    }
+
     private static void tell(String call, String got, String want) {
         wrong++;
         if (wrong <= 50) {
