@@ -149,6 +149,7 @@ public final class BoundariesTest {
         if (to == null) {
             Check.dueState(call, x, before);
         } else {
+            Check.dueState(call, x, Check.stateOf(Check.of(to)));
             Check.due(call + " and back", x.change(-how), true);
             Check.dueState(call + " and back", x, before);
         }
