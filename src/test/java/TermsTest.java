@@ -13,6 +13,7 @@ public final class TermsTest {
         noProductOfLinearOnes();
         leftOfDegreeZero();
         leftOfDegreeThreeOrFour();
+        nothingLeftOfFarProducts();
         leftIsSuchAPolynomialToo();
         linearOnesFirst();
         lesserAnswersFirst();
@@ -165,6 +166,27 @@ public final class TermsTest {
         Check.dueLeft("x (x x x - 2)", Check.of(0, -2, 0, 0, 1), -2, 0, 0, 1);
         Check.due("x (x x x - 2): factors()", Check.of(0, -2, 0, 0, 1).factors(), 1);
         Check.dueLeft("all 20 with 19 at 0", Check.of(19, 20, 20, 20, 20), 19, 20, 20, 20, 20);
+    }
+
+    // The same sentence, where two quadratic factors have the greatest b for their a of all equations.
+    private static void nothingLeftOfFarProducts() {
+        int[][] first = {{1, -3, 1}, {1, 3, 1}, {2, -6, 3}, {3, 7, 5}, {1, 4, 2}, {1, -3, 1}};
+        int[][] second = {{11, 13, 10}, {11, -14, 11}, {6, 8, 5}, {6, -8, 3}, {7, -8, -1}, {11, 13, 8}};
+        for (int i = 0; i < first.length; i++) {
+            int[] product = new int[5];
+            for (int j = 0; j < 3; j++) {
+                for (int k = 0; k < 3; k++) {
+                    product[4 - j - k] += first[i][j] * second[i][k];
+                }
+            }
+            RadicalAnswers x = Check.of(product);
+            Check.due("far product " + i + ": factors()", x.factors(), 2);
+            Check.dueLeft("far product " + i, x, 1);
+            for (int j = 0; j < 3; j++) {
+                Check.due("far product " + i + ": factor(0, " + (2 + j) + ")", x.factor(0, 2 + j), first[i][j]);
+                Check.due("far product " + i + ": factor(1, " + (2 + j) + ")", x.factor(1, 2 + j), second[i][j]);
+            }
+        }
     }
 
     // "what is LEFT is such a polynomial too" (no common divisor, the highest number above 0)
