@@ -67,17 +67,16 @@ public final class BoundariesTest {
 
     // Promise 2: "IllegalArgumentException: it isn't -20 .. 20."
     private static void putOutside() {
-        RadicalAnswers zero = new RadicalAnswers();
-        RadicalAnswers full = Check.of(-20, 20, -20, 20, -20);
+        int[] zero = {};
+        int[] full = {-20, 20, -20, 20, -20};
         for (int power = 0; power <= 4; power++) {
             int p = power;
             for (int v : new int[] {-21, 21, -40, 40, Integer.MIN_VALUE, Integer.MAX_VALUE}) {
                 String call = "put(" + p + ", " + v + ")";
-                Check.dueRefused("0: " + call, Check.ARGUMENT, zero, () -> zero.put(p, v) ? 1 : 0);
-                Check.dueRefused(call, Check.ARGUMENT, full, () -> full.put(p, v) ? 1 : 0);
+                Check.dueRefused("0: " + call, Check.ARGUMENT, zero, one -> one.put(p, v) ? 1 : 0);
+                Check.dueRefused(call, Check.ARGUMENT, full, one -> one.put(p, v) ? 1 : 0);
             }
         }
-        Check.dueNumbers("refused", full, -20, 20, -20, 20, -20);
     }
 
     // Promise 3: "That number."
@@ -282,16 +281,16 @@ public final class BoundariesTest {
 
     // Promise 6: "IllegalArgumentException: another what."
     private static void factorAnotherWhat() {
-        RadicalAnswers x = Check.of(2, -2, -1, 1);
+        int[] x = {2, -2, -1, 1};
         for (int k = 0; k < 2; k++) {
             int number = k;
             for (int what : new int[] {-1, 6, Integer.MIN_VALUE, Integer.MAX_VALUE}) {
                 String call = "factor(" + k + ", " + what + ")";
-                Check.dueRefused(call, Check.ARGUMENT, x, () -> x.factor(number, what));
+                Check.dueRefused(call, Check.ARGUMENT, x, one -> one.factor(number, what));
             }
         }
-        Check.dueFactor("x - 1", x, 0, 1, 1, 0, 1, -1, 0);
-        Check.dueFactor("x x - 2", x, 1, 2, 1, 1, 0, -2, 2);
+        Check.dueFactor("x - 1", Check.of(x), 0, 1, 1, 0, 1, -1, 0);
+        Check.dueFactor("x x - 2", Check.of(x), 1, 2, 1, 1, 0, -2, 2);
     }
 
     // Promise 7: "The CONTENT."
@@ -341,18 +340,18 @@ public final class BoundariesTest {
 
     // Promise 9: "IllegalArgumentException: another which, part."
     private static void answerAnother() {
-        RadicalAnswers x = Check.of(2, -8, -1, 4);
+        int[] x = {2, -8, -1, 4};
         for (int k = 0; k < 2; k++) {
             int number = k;
             for (int bad : new int[] {-1, 2, Integer.MIN_VALUE, Integer.MAX_VALUE}) {
                 for (int good = 0; good <= 1; good++) {
                     int fine = good;
                     String call = "answer(" + k + ", " + bad + ", " + fine + ")";
-                    Check.dueRefused(call, Check.ARGUMENT, x, () -> x.answer(number, bad, fine));
+                    Check.dueRefused(call, Check.ARGUMENT, x, one -> one.answer(number, bad, fine));
                     call = "answer(" + k + ", " + fine + ", " + bad + ")";
-                    Check.dueRefused(call, Check.ARGUMENT, x, () -> x.answer(number, fine, bad));
+                    Check.dueRefused(call, Check.ARGUMENT, x, one -> one.answer(number, fine, bad));
                 }
-                Check.dueRefused("both " + bad, Check.ARGUMENT, x, () -> x.answer(number, bad, bad));
+                Check.dueRefused("both " + bad, Check.ARGUMENT, x, one -> one.answer(number, bad, bad));
             }
         }
     }
@@ -505,17 +504,17 @@ public final class BoundariesTest {
 
     // Promise 12: "IllegalArgumentException: one isn't real."
     private static void compareNotReal() {
-        RadicalAnswers x = Check.of(0, 1, 0, 1);
-        RadicalAnswers none = Check.of(2, 0, 3, 0, 1);
+        int[] x = {0, 1, 0, 1};
+        int[] none = {2, 0, 3, 0, 1};
         for (boolean upper : BOTH) {
             for (boolean other : BOTH) {
-                Check.due("0, 0", x.compare(0, upper, 0, other), 0);
-                Check.dueRefused("0, not real", Check.ARGUMENT, x, () -> x.compare(0, upper, 1, other));
-                Check.dueRefused("not real, 0", Check.ARGUMENT, x, () -> x.compare(1, upper, 0, other));
-                Check.dueRefused("not real, itself", Check.ARGUMENT, x, () -> x.compare(1, upper, 1, other));
-                Check.dueRefused("neither real", Check.ARGUMENT, none, () -> none.compare(0, upper, 1, other));
-                Check.dueRefused("not real, none", Check.INDEX, none, () -> none.compare(0, upper, 2, other));
-                Check.dueRefused("none, not real", Check.INDEX, none, () -> none.compare(2, upper, 0, other));
+                Check.due("0, 0", Check.of(x).compare(0, upper, 0, other), 0);
+                Check.dueRefused("0, not real", Check.ARGUMENT, x, one -> one.compare(0, upper, 1, other));
+                Check.dueRefused("not real, 0", Check.ARGUMENT, x, one -> one.compare(1, upper, 0, other));
+                Check.dueRefused("not real, itself", Check.ARGUMENT, x, one -> one.compare(1, upper, 1, other));
+                Check.dueRefused("neither real", Check.ARGUMENT, none, one -> one.compare(0, upper, 1, other));
+                Check.dueRefused("not real, none", Check.INDEX, none, one -> one.compare(0, upper, 2, other));
+                Check.dueRefused("none, not real", Check.INDEX, none, one -> one.compare(2, upper, 0, other));
             }
         }
     }

@@ -4,6 +4,10 @@ final class Check {
         long answer();
     }
 
+    interface CallOn {
+        long answer(RadicalAnswers one);
+    }
+
     static final String STATE = "IllegalStateException";
     static final String INDEX = "IndexOutOfBoundsException";
     static final String ARGUMENT = "IllegalArgumentException";
@@ -44,6 +48,12 @@ final class Check {
         String before = stateOf(x);
         dueThrow(call, want, made);
         dueState("behind " + call, x, before);
+    }
+
+    /** The same on an object of its own: what an object answers behind its 512th call is free. */
+    static void dueRefused(String call, String want, int[] numbers, CallOn made) {
+        RadicalAnswers one = of(numbers);
+        dueRefused(call, want, one, () -> made.answer(one));
     }
 
     static void dueState(String call, RadicalAnswers x, String want) {

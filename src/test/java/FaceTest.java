@@ -52,7 +52,18 @@ public final class FaceTest {
         Check.due("the constructor", made[0].toString().equals("public RadicalAnswers()"), true);
         for (Field f : c.getDeclaredFields()) {
             Check.due("private field " + f.getName(), Modifier.isPrivate(f.getModifiers()), true);
+            // What one object holds is never another one's.
+            if (Modifier.isStatic(f.getModifiers())) {
+                Check.due("final field " + f.getName(), Modifier.isFinal(f.getModifiers()), true);
+            }
         }
+        for (Class<?> inside : c.getDeclaredClasses()) {
+            int marks = inside.getModifiers();
+            Check.due("static class " + inside.getName(), Modifier.isStatic(marks), true);
+            boolean isSeen = Modifier.isPublic(marks) || Modifier.isProtected(marks);
+            Check.due("class seen from outside: " + inside.getName(), isSeen, false);
+        }
+        Check.due("no class above it", c.getSuperclass() == Object.class && c.getInterfaces().length == 0, true);
         Check.end();
     }
 }

@@ -272,31 +272,39 @@ public final class ManyEquationsTest {
     }
 
     private static void lookAtReals(String name, RadicalAnswers x) {
-        int count = 2 * x.factors();
-        for (int i = 0; i < count; i++) {
-            int k = i / 2;
-            boolean upper = i % 2 == 1;
-            BigDecimal value = valueOf(x, k, upper);
-            String call = name + ": floor(" + k + ", " + upper + ")";
-            if (value == null) {
-                Check.dueThrow(call, Check.ARGUMENT, () -> x.floor(k, upper));
-            } else {
-                Check.due(call, x.floor(k, upper), value.setScale(0, RoundingMode.FLOOR).intValueExact());
-            }
-            for (int j = 0; j < count; j++) {
-                lookAtPair(name, x, k, upper, j / 2, j % 2 == 1);
+        BigDecimal[] values = new BigDecimal[2 * x.factors()];
+        for (int i = 0; i < values.length; i++) {
+            values[i] = valueOf(x, i / 2, i % 2 == 1);
+        }
+        for (int i = 0; i < values.length; i++) {
+            lookAtFloor(name, x, i, values[i]);
+            for (int j = 0; j < values.length; j++) {
+                lookAtPair(name, x, i, j, values);
             }
         }
     }
 
-    private static void lookAtPair(String name, RadicalAnswers x, int k, boolean upper, int m, boolean other) {
-        BigDecimal one = valueOf(x, k, upper);
-        BigDecimal two = valueOf(x, m, other);
+    private static void lookAtFloor(String name, RadicalAnswers x, int i, BigDecimal value) {
+        int k = i / 2;
+        boolean upper = i % 2 == 1;
+        String call = name + ": floor(" + k + ", " + upper + ")";
+        if (value == null) {
+            Check.dueThrow(call, Check.ARGUMENT, () -> x.floor(k, upper));
+        } else {
+            Check.due(call, x.floor(k, upper), value.setScale(0, RoundingMode.FLOOR).intValueExact());
+        }
+    }
+
+    private static void lookAtPair(String name, RadicalAnswers x, int i, int j, BigDecimal[] values) {
+        int k = i / 2;
+        boolean upper = i % 2 == 1;
+        int m = j / 2;
+        boolean other = j % 2 == 1;
         String call = name + ": compare(" + k + ", " + upper + ", " + m + ", " + other + ")";
-        if (one == null || two == null) {
+        if (values[i] == null || values[j] == null) {
             Check.dueThrow(call, Check.ARGUMENT, () -> x.compare(k, upper, m, other));
         } else {
-            Check.due(call, x.compare(k, upper, m, other), one.compareTo(two));
+            Check.due(call, x.compare(k, upper, m, other), values[i].compareTo(values[j]));
         }
     }
 }

@@ -337,25 +337,26 @@ public final class TermsTest {
         Check.dueAnswer("x x - 5 x + 1", Check.of(1, -5, 1), 0, 5, 2, 1, 2);
     }
 
-    private static RadicalAnswers withFactors(int count) {
+    private static int[] withFactors(int count) {
         switch (count) {
             case 0:
-                return Check.of(-2, 0, 0, 1);
+                return new int[] {-2, 0, 0, 1};
             case 1:
-                return Check.of(-2, 0, 1);
+                return new int[] {-2, 0, 1};
             case 2:
-                return Check.of(6, 0, -5, 0, 1);
+                return new int[] {6, 0, -5, 0, 1};
             case 3:
-                return Check.of(0, 0, -1, 0, 1);
+                return new int[] {0, 0, -1, 0, 1};
             default:
-                return Check.of(4, 0, -5, 0, 1);
+                return new int[] {4, 0, -5, 0, 1};
         }
     }
 
     // "IndexOutOfBoundsException: no such FACTOR"
     private static void noSuchFactor() {
         for (int count = 0; count <= 4; count++) {
-            RadicalAnswers x = withFactors(count);
+            int[] numbers = withFactors(count);
+            RadicalAnswers x = Check.of(numbers);
             String call = count + " factors: ";
             Check.due(call + "factors()", x.factors(), count);
             for (int k = 0; k < count; k++) {
@@ -365,17 +366,17 @@ public final class TermsTest {
                 Check.due(call + "compare(" + k + ", ..) is one", x.compare(k, true, k, true), 0);
             }
             for (int k : new int[] {-1, count, count + 1, Integer.MIN_VALUE, Integer.MAX_VALUE}) {
-                Check.dueRefused(call + "factor(" + k + ", 0)", Check.INDEX, x, () -> x.factor(k, 0));
-                Check.dueRefused(call + "answer(" + k + ", 0, 0)", Check.INDEX, x, () -> x.answer(k, 0, 0));
-                Check.dueRefused(call + "floor(" + k + ", true)", Check.INDEX, x, () -> x.floor(k, true));
-                Check.dueRefused(call + "floor(" + k + ", false)", Check.INDEX, x, () -> x.floor(k, false));
-                Check.dueRefused(call + "compare(" + k + ", 0)", Check.INDEX, x, () -> x.compare(k, true, 0, true));
-                Check.dueRefused(call + "compare(0, " + k + ")", Check.INDEX, x, () -> x.compare(0, true, k, true));
-                Check.dueRefused(call + "compare(k, k)", Check.INDEX, x, () -> x.compare(k, true, k, false));
+                Check.dueRefused(call + "factor(" + k + ", 0)", Check.INDEX, numbers, one -> one.factor(k, 0));
+                Check.dueRefused(call + "answer(" + k + ", 0, 0)", Check.INDEX, numbers, one -> one.answer(k, 0, 0));
+                Check.dueRefused(call + "floor(" + k + ", true)", Check.INDEX, numbers, one -> one.floor(k, true));
+                Check.dueRefused(call + "floor(" + k + ", false)", Check.INDEX, numbers, one -> one.floor(k, false));
+                Check.dueRefused(call + "compare(k, 0)", Check.INDEX, numbers, one -> one.compare(k, true, 0, true));
+                Check.dueRefused(call + "compare(0, k)", Check.INDEX, numbers, one -> one.compare(0, true, k, true));
+                Check.dueRefused(call + "compare(k, k)", Check.INDEX, numbers, one -> one.compare(k, true, k, false));
             }
         }
         // An equation with fewer factors than the one before it forgets the others.
-        RadicalAnswers fewer = withFactors(4);
+        RadicalAnswers fewer = Check.of(withFactors(4));
         Check.due("4 factors", fewer.factors(), 4);
         fewer.put(0, 5);
         Check.due("none", fewer.factors(), 0);
@@ -434,54 +435,54 @@ public final class TermsTest {
 
     // "Of several the one that stands first behind "throws" is thrown; nothing changes."
     private static void firstOfSeveral() {
-        RadicalAnswers zero = new RadicalAnswers();
-        RadicalAnswers x = Check.of(-2, 0, 1);
+        int[] zero = {};
+        int[] x = {-2, 0, 1};
         for (int far : new int[] {-1, 6, Integer.MIN_VALUE, Integer.MAX_VALUE}) {
             for (int v : NO_NUMBER) {
                 String call = "put(" + far + ", " + v + ")";
-                Check.dueRefused("0: " + call, Check.INDEX, zero, () -> zero.put(far, v) ? 1 : 0);
-                Check.dueRefused(call, Check.INDEX, x, () -> x.put(far, v) ? 1 : 0);
+                Check.dueRefused("0: " + call, Check.INDEX, zero, one -> one.put(far, v) ? 1 : 0);
+                Check.dueRefused(call, Check.INDEX, x, one -> one.put(far, v) ? 1 : 0);
             }
-            Check.dueRefused("0: left(" + far + ")", Check.STATE, zero, () -> zero.left(far));
-            Check.dueRefused("0: factor(far, 0)", Check.STATE, zero, () -> zero.factor(far, 0));
-            Check.dueRefused("0: factor(0, far)", Check.STATE, zero, () -> zero.factor(0, far));
-            Check.dueRefused("0: factor(far, far)", Check.STATE, zero, () -> zero.factor(far, far));
-            Check.dueRefused("factor(far, far)", Check.INDEX, x, () -> x.factor(far, far));
-            Check.dueRefused("factor(1, far)", Check.INDEX, x, () -> x.factor(1, far));
-            Check.dueRefused("factor(0, far)", Check.ARGUMENT, x, () -> x.factor(0, far));
-            Check.dueRefused("0: answer(far, far, far)", Check.STATE, zero, () -> zero.answer(far, far, far));
-            Check.dueRefused("0: answer(0, far, 0)", Check.STATE, zero, () -> zero.answer(0, far, 0));
-            Check.dueRefused("0: answer(0, 0, far)", Check.STATE, zero, () -> zero.answer(0, 0, far));
-            Check.dueRefused("answer(far, far, far)", Check.INDEX, x, () -> x.answer(far, far, far));
-            Check.dueRefused("answer(1, far, 0)", Check.INDEX, x, () -> x.answer(1, far, 0));
-            Check.dueRefused("answer(1, 0, far)", Check.INDEX, x, () -> x.answer(1, 0, far));
-            Check.dueRefused("answer(0, far, 0)", Check.ARGUMENT, x, () -> x.answer(0, far, 0));
-            Check.dueRefused("answer(0, 0, far)", Check.ARGUMENT, x, () -> x.answer(0, 0, far));
-            Check.dueRefused("0: floor(far, true)", Check.STATE, zero, () -> zero.floor(far, true));
-            Check.dueRefused("0: compare(far, far)", Check.STATE, zero, () -> zero.compare(far, true, far, true));
-            Check.dueRefused("0: compare(far, 0)", Check.STATE, zero, () -> zero.compare(far, true, 0, true));
-            Check.dueRefused("0: compare(0, far)", Check.STATE, zero, () -> zero.compare(0, true, far, true));
+            Check.dueRefused("0: left(" + far + ")", Check.STATE, zero, one -> one.left(far));
+            Check.dueRefused("0: factor(far, 0)", Check.STATE, zero, one -> one.factor(far, 0));
+            Check.dueRefused("0: factor(0, far)", Check.STATE, zero, one -> one.factor(0, far));
+            Check.dueRefused("0: factor(far, far)", Check.STATE, zero, one -> one.factor(far, far));
+            Check.dueRefused("factor(far, far)", Check.INDEX, x, one -> one.factor(far, far));
+            Check.dueRefused("factor(1, far)", Check.INDEX, x, one -> one.factor(1, far));
+            Check.dueRefused("factor(0, far)", Check.ARGUMENT, x, one -> one.factor(0, far));
+            Check.dueRefused("0: answer(far, far, far)", Check.STATE, zero, one -> one.answer(far, far, far));
+            Check.dueRefused("0: answer(0, far, 0)", Check.STATE, zero, one -> one.answer(0, far, 0));
+            Check.dueRefused("0: answer(0, 0, far)", Check.STATE, zero, one -> one.answer(0, 0, far));
+            Check.dueRefused("answer(far, far, far)", Check.INDEX, x, one -> one.answer(far, far, far));
+            Check.dueRefused("answer(1, far, 0)", Check.INDEX, x, one -> one.answer(1, far, 0));
+            Check.dueRefused("answer(1, 0, far)", Check.INDEX, x, one -> one.answer(1, 0, far));
+            Check.dueRefused("answer(0, far, 0)", Check.ARGUMENT, x, one -> one.answer(0, far, 0));
+            Check.dueRefused("answer(0, 0, far)", Check.ARGUMENT, x, one -> one.answer(0, 0, far));
+            Check.dueRefused("0: floor(far, true)", Check.STATE, zero, one -> one.floor(far, true));
+            Check.dueRefused("0: compare(far, far)", Check.STATE, zero, one -> one.compare(far, true, far, true));
+            Check.dueRefused("0: compare(far, 0)", Check.STATE, zero, one -> one.compare(far, true, 0, true));
+            Check.dueRefused("0: compare(0, far)", Check.STATE, zero, one -> one.compare(0, true, far, true));
         }
     }
 
     // The same sentence, where one of the exceptions is of answers that aren't real.
     private static void firstOfSeveralNotReal() {
-        RadicalAnswers x = Check.of(-2, 0, -1, 0, 1);
-        Check.due("(x x - 2)(x x + 1): D", x.factor(0, 5), 2);
-        Check.due("(x x - 2)(x x + 1): D", x.factor(1, 5), -1);
+        int[] x = {-2, 0, -1, 0, 1};
+        Check.due("(x x - 2)(x x + 1): D", Check.of(x).factor(0, 5), 2);
+        Check.due("(x x - 2)(x x + 1): D", Check.of(x).factor(1, 5), -1);
         for (int none : new int[] {-1, 2, Integer.MIN_VALUE, Integer.MAX_VALUE}) {
             for (boolean upper : new boolean[] {false, true}) {
-                Check.dueRefused("not real, none", Check.INDEX, x, () -> x.compare(1, upper, none, true));
-                Check.dueRefused("none, not real", Check.INDEX, x, () -> x.compare(none, upper, 1, true));
-                Check.dueRefused("real, none", Check.INDEX, x, () -> x.compare(0, upper, none, true));
-                Check.dueRefused("none, real", Check.INDEX, x, () -> x.compare(none, upper, 0, true));
+                Check.dueRefused("not real, none", Check.INDEX, x, one -> one.compare(1, upper, none, true));
+                Check.dueRefused("none, not real", Check.INDEX, x, one -> one.compare(none, upper, 1, true));
+                Check.dueRefused("real, none", Check.INDEX, x, one -> one.compare(0, upper, none, true));
+                Check.dueRefused("none, real", Check.INDEX, x, one -> one.compare(none, upper, 0, true));
             }
         }
         for (boolean upper : new boolean[] {false, true}) {
-            Check.dueRefused("floor, not real", Check.ARGUMENT, x, () -> x.floor(1, upper));
-            Check.dueRefused("real, not real", Check.ARGUMENT, x, () -> x.compare(0, upper, 1, true));
-            Check.dueRefused("not real, real", Check.ARGUMENT, x, () -> x.compare(1, upper, 0, false));
-            Check.dueRefused("not real, itself", Check.ARGUMENT, x, () -> x.compare(1, upper, 1, upper));
+            Check.dueRefused("floor, not real", Check.ARGUMENT, x, one -> one.floor(1, upper));
+            Check.dueRefused("real, not real", Check.ARGUMENT, x, one -> one.compare(0, upper, 1, true));
+            Check.dueRefused("not real, real", Check.ARGUMENT, x, one -> one.compare(1, upper, 0, false));
+            Check.dueRefused("not real, itself", Check.ARGUMENT, x, one -> one.compare(1, upper, 1, upper));
         }
     }
 
